@@ -285,9 +285,10 @@ public final class TreePaths {
         }
 
         void expect(char c) {
-            if (!passes(c)) {
+            if (look() != c) {
                 refuse(at);
             }
+            skip();
         }
 
         void expectWord(String word) {
@@ -383,16 +384,12 @@ public final class TreePaths {
             target.restart(text);
             cursor.restart(text);
             try {
-                readWhole();
+                readValue(NONE, "", 0);
+                cursor.expectEnd();
             } catch (IllegalArgumentException e) {
                 return cursor.illPlace;
             }
             return NONE;
-        }
-
-        private void readWhole() {
-            readValue(NONE, "", 0);
-            cursor.expectEnd();
         }
 
         private void readValue(int outer, String name, int depth) {
@@ -1011,33 +1008,42 @@ public final class TreePaths {
         }
 
         private void selectStretch(int node, Selector stretch, Row to) {
-            if (searched.nodes[node].kind != ARRAY) {
+            if (searched.nodes[node].kind != ARRAY || stretch.step == 0) {
                 return;
             }
-            if (stretch.step > 0) {
-                selectUpwards(node, stretch, to);
-            } else if (stretch.step < 0) {
-                selectDownwards(node, stretch, to);
+            int length = searched.nodes[node].size;
+            boolean upwards = stretch.step > 0;
+            int first = upwards ? firstUpwards(stretch, length) : firstDownwards(stretch, length);
+            int end = upwards ? endUpwards(stretch, length) : endDownwards(stretch, length);
+            // Each step meets another place: no more of them than the array's length are inside it.
+            for (int i = 0; i < length; i++) {
+                int place = first + i * stretch.step;
+                if (upwards ? place < end : place > end) {
+                    to.addIfThere(searched.childAt(node, place));
+                }
             }
         }
 
-        private void selectUpwards(int node, Selector stretch, Row to) {
-            int length = searched.nodes[node].size;
-            int first = stretch.hasFrom ? Math.max(0, fromBegin(stretch.from, length)) : 0;
-            int end = stretch.hasTo ? Math.min(length, fromBegin(stretch.to, length)) : length;
-            for (int place = first; place < end; place += stretch.step) {
-                to.addIfThere(searched.childAt(node, place));
-            }
+        private static int firstUpwards(Selector stretch, int length) {
+            return stretch.hasFrom ? Math.max(0, fromBegin(stretch.from, length)) : 0;
         }
 
-        private void selectDownwards(int node, Selector stretch, Row to) {
-            int length = searched.nodes[node].size;
-            // A beginning behind the end stays there: it settles which places the steps meet.
-            int first = stretch.hasFrom ? fromBegin(stretch.from, length) : length - 1;
-            int end = stretch.hasTo ? Math.max(-1, fromBegin(stretch.to, length)) : -1;
-            for (int place = first; place > end; place += stretch.step) {
-                to.addIfThere(searched.childAt(node, place));
+        private static int endUpwards(Selector stretch, int length) {
+            return stretch.hasTo ? fromBegin(stretch.to, length) : length;
+        }
+
+        private static int firstDownwards(Selector stretch, int length) {
+            int place = stretch.hasFrom ? fromBegin(stretch.from, length) : length - 1;
+            if (place < length || stretch.step >= 0) {
+                return place;
             }
+            // It isn't just moved to the last place: where it begins settles which places the steps meet.
+            int steps = (place - length) / -stretch.step + 1;
+            return place + steps * stretch.step;
+        }
+
+        private static int endDownwards(Selector stretch, int length) {
+            return stretch.hasTo ? fromBegin(stretch.to, length) : -1;
         }
 
         private void selectHolding(int node, Test condition, Row to, int depth) {
