@@ -371,6 +371,25 @@ public final class TreePaths {
             }
             return source.substring(begin, at);
         }
+
+        /** Reads a value that has no children, and whose string has these quotes. */
+        void readPlain(Value value, char quote, char barred) {
+            if (look() == quote) {
+                String string = readString(quote, barred);
+                value.become(STRING, string.length(), string);
+            } else if (look() == 'n') {
+                expectWord("null");
+                value.become(NULL, 0, "");
+            } else if (look() == 'f') {
+                expectWord("false");
+                value.become(FALSE, 0, "");
+            } else if (look() == 't') {
+                expectWord("true");
+                value.become(TRUE, 0, "");
+            } else {
+                value.become(NUMBER, readNumber(VALUE_DIGITS), "");
+            }
+        }
     }
 
     /** Reads a text as a document. */
@@ -407,35 +426,12 @@ public final class TreePaths {
                     readObject(node, depth + 1);
                     break;
                 default:
-                    readPlain(value);
+                    cursor.readPlain(value, '"', '\\');
                     break;
             }
             value.end = cursor.at;
             value.after = target.count;
             cursor.skipBlanks();
-        }
-
-        private void readPlain(Value value) {
-            switch (cursor.look()) {
-                case 'n':
-                    cursor.expectWord("null");
-                    break;
-                case 'f':
-                    cursor.expectWord("false");
-                    value.become(FALSE, 0, "");
-                    break;
-                case 't':
-                    cursor.expectWord("true");
-                    value.become(TRUE, 0, "");
-                    break;
-                case '"':
-                    String string = cursor.readString('"', '\\');
-                    value.become(STRING, string.length(), string);
-                    break;
-                default:
-                    value.become(NUMBER, cursor.readNumber(VALUE_DIGITS), "");
-                    break;
-            }
         }
 
         private void openHolder(int node, int kind, int depth) {
@@ -859,26 +855,7 @@ public final class TreePaths {
 
         private Thing readWritten() {
             Thing written = new Thing(Thing.WRITTEN);
-            switch (cursor.look()) {
-                case 'n':
-                    cursor.expectWord("null");
-                    break;
-                case 'f':
-                    cursor.expectWord("false");
-                    written.value.become(FALSE, 0, "");
-                    break;
-                case 't':
-                    cursor.expectWord("true");
-                    written.value.become(TRUE, 0, "");
-                    break;
-                case '\'':
-                    String string = cursor.readString('\'', '\'');
-                    written.value.become(STRING, string.length(), string);
-                    break;
-                default:
-                    written.value.become(NUMBER, cursor.readNumber(VALUE_DIGITS), "");
-                    break;
-            }
+            cursor.readPlain(written.value, '\'', '\'');
             return written;
         }
     }
