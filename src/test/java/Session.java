@@ -18,28 +18,53 @@ final class Session {
         return paths;
     }
 
+    // The words of the document that are tested now, and how many answers there were before.
+    private static String sentence = "";
+    private static int checkedBefore = -1;
+
     static void due(String what, long got, long want) {
         checked++;
         if (got != want) {
-            wrong++;
-            System.out.println(what + " answered " + got + ", due is " + want);
+            wrong(what + " answered " + got + ", due is " + want);
         }
     }
 
     static void due(String what, String got, String want) {
         checked++;
         if (!got.equals(want)) {
-            wrong++;
-            System.out.println(what + " answered <" + got + ">, due is <" + want + ">");
+            wrong(what + " answered <" + got + ">, due is <" + want + ">");
         }
+    }
+
+    private static void wrong(String what) {
+        wrong++;
+        if (!sentence.isEmpty()) {
+            System.out.println("BROKEN: " + sentence);
+        }
+        System.out.println(what);
+    }
+
+    /** The answers from here on are due by these words of the document. */
+    static void sentence(String words) {
+        if (checked == checkedBefore) {
+            wrong("no answer was looked at");
+        }
+        sentence = words;
+        checkedBefore = checked;
     }
 
     /** Ends the test's program: with exit code 1 if an answer was wrong, or none was looked at. */
     static void end() {
+        sentence("");
         System.out.println(checked + " answers, " + wrong + " not as due");
         if (wrong != 0 || checked == 0) {
             System.exit(1);
         }
+    }
+
+    /** A document's text, written with ' for its quotes. */
+    static String quoted(String text) {
+        return text.replace('\'', '"');
     }
 
     Session type(String text) {
