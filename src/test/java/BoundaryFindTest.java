@@ -8,6 +8,7 @@ final class BoundaryFindTest {
         belowGoesFromTheNodeItselfToo();
         aNodeMayBeFoundMoreThanOnce();
         nameFindsTheChildOfAnObject();
+        nameFindsNothingInOthers();
         starFindsAllChildren();
         placeCountsFromZero();
         placeBelowZeroCountsFromTheEnd();
@@ -21,6 +22,12 @@ final class BoundaryFindTest {
         stretchDownwardsLeftOut();
         placesThatTheArrayHasNot();
         stepZeroFindsNothing();
+        stretchesRoundAllEdges();
+        anyHoldsIfOneHolds();
+        allHoldIfEachHolds();
+        notHoldsIfItsTestDoesNot();
+        bracketsHoldTogether();
+        fourInOneAnotherAreLookedAt();
         allPartsAreLookedAt();
         pathAsATestHoldsIfItFindsANode();
         pathsValueIsThatOfTheNode();
@@ -39,6 +46,7 @@ final class BoundaryFindTest {
         howManyNodes();
         noDocumentOrNoQuery();
         aSegmentFindsAtMost300();
+        atMost300WithEachKindOfSelector();
         aSegmentOfAPathFindsAtMost300();
         segmentsGoFromAtMostAMillion();
         eachAsOftenAsOneDoes();
@@ -128,6 +136,17 @@ final class BoundaryFindTest {
         on("[{'a':1}]").finds("$.a").finds("$['a']").finds("$['0']").finds("$[0].a", 2);
         on("'a'").finds("$.a");
         on("null").finds("$.a");
+    }
+
+    private static void nameFindsNothingInOthers() {
+        Session.sentence("finds the child of that name, if it is an object: in others nothing");
+        // The values of an array have no names, and no empty ones, either.
+        on("[1,2]").finds("$['']").finds("$['1']").finds("$..['']").finds("$[?@['']]");
+        on("{'':[3,4]}").finds("$['']", 1).finds("$['']['']").finds("$..['']", 1);
+        for (String other : new String[] {"''", "'abcdefgh'", "0", "999999", "-999999", "null", "true", "false", "[]", "{}"}) {
+            on(other).finds("$['']").finds("$.a").finds("$..a");
+            on("{'a':" + other + "}").finds("$.a['']").finds("$.a.a").finds("$..a", 1);
+        }
     }
 
     private static void starFindsAllChildren() {
@@ -237,6 +256,146 @@ final class BoundaryFindTest {
         Session.sentence("S 0: nothing");
         SIX.finds("$[::0]").finds("$[0:6:0]").finds("$[5:0:0]").finds("$[-999:999:0]").finds("$[0::0,0]", 1);
         EMPTY.finds("$[::0]");
+    }
+
+    private static final String[] ENDS = {"", "0", "1", "2", "3", "4", "5", "999", "-1", "-2", "-3", "-4", "-5", "-999"};
+    private static final String[] STEPS = {"", "0", "1", "2", "3", "999", "-1", "-2", "-3", "-4", "-999"};
+
+    private static void stretchesRoundAllEdges() {
+        Session.sentence("F:T:S finds children of an array: all ways round its edges");
+        for (int length = 0; length <= 4; length++) {
+            On array = on("[" + "7,7,7,7".substring(0, Math.max(0, 2 * length - 1)) + "]");
+            for (String from : ENDS) {
+                for (String to : ENDS) {
+                    stretchesBetween(array.read(), length, from, to);
+                }
+            }
+        }
+    }
+
+    private static void stretchesBetween(Session array, int length, String from, String to) {
+        for (String step : STEPS) {
+            array.finds("$[" + from + ":" + to + ":" + step + "]", stretch(length, from, to, step));
+        }
+    }
+
+    /** The nodes of a stretch, by the document's words alone: node 1 is at place 0. */
+    private static int[] stretch(int length, String from, String to, String step) {
+        int s = step.isEmpty() ? 1 : Integer.parseInt(step);
+        int first = from.isEmpty() ? (s > 0 ? 0 : length - 1) : fromBegin(from, length);
+        int end = to.isEmpty() ? (s > 0 ? length : Integer.MIN_VALUE) : fromBegin(to, length);
+        if (s > 0) {
+            first = Math.max(first, 0);
+            end = Math.max(end, 0);
+        }
+        int[] nodes = new int[length];
+        int count = 0;
+        for (int place = first; s != 0 && place > -2000 && place < 2000; place += s) {
+            boolean inside = s > 0 ? place < end : place > end;
+            if (inside && place >= 0 && place < length) {
+                nodes[count] = place + 1;
+                count++;
+            }
+        }
+        return java.util.Arrays.copyOf(nodes, count);
+    }
+
+    private static int fromBegin(String number, int length) {
+        int place = Integer.parseInt(number);
+        return place < 0 ? length + place : place;
+    }
+
+    private static final boolean[] BOTH = {false, true};
+
+    /** A condition of A, B and C, each put in as a test that holds or doesn't. */
+    private static void holds(String condition, boolean a, boolean b, boolean c, boolean due) {
+        String query = "$[?" + condition.replace("A", test(a)).replace("B", test(b)).replace("C", test(c)) + "]";
+        on("[7]").finds(query, due ? new int[] {1} : new int[0]);
+        String byPaths = "$[?" + condition.replace("A", path(a)).replace("B", path(b)).replace("C", path(c)) + "]";
+        on("[7]").finds(byPaths, due ? new int[] {1} : new int[0]);
+    }
+
+    private static String test(boolean holds) {
+        return holds ? "@==7" : "@<7";
+    }
+
+    private static String path(boolean finds) {
+        return finds ? "@" : "@.*";
+    }
+
+    private static void anyHoldsIfOneHolds() {
+        Session.sentence("ANY: ALL, or some with || between them");
+        for (boolean a : BOTH) {
+            holds("A", a, a, a, a);
+            for (boolean b : BOTH) {
+                holds("A||B", a, b, b, a || b);
+                for (boolean c : BOTH) {
+                    holds("A||B||C", a, b, c, a || b || c);
+                    holds("A||B&&C", a, b, c, a || (b && c));
+                    holds("A&&B||C", a, b, c, (a && b) || c);
+                    holds("A&&B||B&&C||C&&A", a, b, c, (a && b) || (b && c) || (c && a));
+                }
+            }
+        }
+    }
+
+    private static void allHoldIfEachHolds() {
+        Session.sentence("ALL: TEST, or some with && between them");
+        for (boolean a : BOTH) {
+            for (boolean b : BOTH) {
+                holds("A&&B", a, b, b, a && b);
+                for (boolean c : BOTH) {
+                    holds("A&&B&&C", a, b, c, a && b && c);
+                }
+            }
+        }
+    }
+
+    private static void notHoldsIfItsTestDoesNot() {
+        Session.sentence("TEST: !TEST");
+        for (boolean a : BOTH) {
+            holds("!A", a, a, a, !a);
+            holds("!!A", a, a, a, a);
+            holds("!!!A", a, a, a, !a);
+            for (boolean b : BOTH) {
+                // It is of the one test behind it, and not of all that comes.
+                holds("!A&&B", a, b, b, !a && b);
+                holds("!A||B", a, b, b, !a || b);
+                holds("A&&!B", a, b, b, a && !b);
+                holds("!A||!B", a, b, b, !a || !b);
+            }
+        }
+        on("[1,2,3]").finds("$[?!@==2]", 1, 3).finds("$[?!@<2]", 2, 3).finds("$[?!@!=2]", 2);
+    }
+
+    private static void bracketsHoldTogether() {
+        Session.sentence("TEST: (ANY)");
+        for (boolean a : BOTH) {
+            holds("(A)", a, a, a, a);
+            holds("(((A)))", a, a, a, a);
+            for (boolean b : BOTH) {
+                holds("!(A||B)", a, b, b, !(a || b));
+                holds("!(A&&B)", a, b, b, !(a && b));
+                holds("(!A)&&B", a, b, b, !a && b);
+                for (boolean c : BOTH) {
+                    holds("(A||B)&&C", a, b, c, (a || b) && c);
+                    holds("A&&(B||C)", a, b, c, a && (b || c));
+                    holds("!(A||(B&&C))", a, b, c, !(a || (b && c)));
+                }
+            }
+        }
+    }
+
+    private static void fourInOneAnotherAreLookedAt() {
+        Session.sentence("at most four are in one another: what all four find");
+        on("[1,[2],'ab',{'a':[7]}]").finds("$[?!!!@.*]", 1, 4).finds("$[?(((@.*)))]", 2, 5).finds("$[?!(!@.*)]", 2, 5)
+                .finds("$[?!((@.*))]", 1, 4).finds("$[?!!count(@.*)==1]", 2, 5).finds("$[?!!length(@)==1]", 2, 5)
+                .finds("$[?length(length(length(@)))==$.x]", 1, 2, 4, 5).finds("$[?length(length(count(@)))==1]")
+                .finds("$[?!count(@[?@==2])==1]", 1, 4, 5).finds("$[?(@[?count(@.*)==1])]", 5).finds("$[?@[?!(@==2)]]", 5)
+                .finds("$[?count(@[?count(@.*)==1])==1]", 5).finds("$[?(!count(@.*)==count($[1].*))]", 1, 4)
+                .finds("$[?1==count(@[?1==count(@.*)])]", 5).finds("$[?count(@[?@[?@==7]])==1]", 5);
+        on("[[[[5,6]]]]").finds("$[?@[?@[?@[?@==6]]]]", 1).finds("$[?@[?@[?@[?@==7]]]]").finds("$[?@[?@[?@[?@]]]]", 1);
+        on("[[[1]]]").finds("$[?@[?@[?@[?@]]]]").finds("$[?@[?@[?@]]]", 1);
     }
 
     // 1 + 10 * (1 + 10 * (1 + 10 * (1 + 10 * 99 + 8) + 8) + 8) steps, and 9 of the last segment: 1000000.
@@ -420,6 +579,23 @@ final class BoundaryFindTest {
         Session.due("find", full.tryFind(), 300);
         Session.due("found(299)", full.paths().found(299), 37);
         Session.due("found(300)", full.paths().found(300), -1);
+    }
+
+    private static void atMost300WithEachKindOfSelector() {
+        Session.sentence("a segment would find more than 300 nodes: whichever of its selectors finds the last one");
+        for (String selector : new String[] {"*", ":", "::-1", "?@", "?@==1"}) {
+            for (String begin : new String[] {"$[0,0,0,1][", "$[0,0,0,1]..["}) {
+                String three = begin + "*,*," + selector;
+                MANY.findsMany(three + ",9]", 300).findsMany(three + ",9].a", 0);
+                isTooMuch(MANY, three + ",0]");
+                isTooMuch(MANY, begin + "0,*,*," + selector + "]");
+            }
+        }
+        // Each of 75 nodes finds four, or each of 76.
+        on("[" + "[1],".repeat(18) + "[1]]").findsMany("$[*,*,*,0:18][0,-1,0,-1]", 300)
+                .findsMany("$[*,*,*,*][0,-1,0,-1]", Session.TOO_MUCH);
+        on("[" + "{'a':1},".repeat(18) + "{'a':1}]").findsMany("$[*,*,*,0:18]['a','a','a','a']", 300)
+                .findsMany("$[*,*,*,*]['a','a','a','a']", Session.TOO_MUCH);
     }
 
     private static void aSegmentOfAPathFindsAtMost300() {

@@ -29,6 +29,7 @@ final class BoundaryQueryTest {
         illWhereATooLongOneBegins();
         illAtItsLengthIfItEndsTooEarly();
         illWhereAPathThatIsNotSingleBegins();
+        asATestItNeedNotBeSingle();
         wrongBeforeThePathEnds();
         Session.end();
     }
@@ -624,6 +625,25 @@ final class BoundaryQueryTest {
         }
         ill("$[?@.*==@..a]", 3);
         ill("$[?@.a==@..a]", 8);
+    }
+
+    private static void asATestItNeedNotBeSingle() {
+        Session.sentence("a PATH that isn't single where it must be: as a TEST, and in count, it need not be");
+        for (String not : NOT_SINGLE) {
+            int end = 4 + not.length();
+            ill("$[?@" + not, end);
+            ill("$[?@" + not + "#", end);
+            ill("$[?@" + not + ")", end);
+            ill("$[?@" + not + "&", end + 1);
+            ill("$[?@" + not + "||1]", end + 3);
+            ill("$[?1==count(@" + not, end + 9);
+            ill("$[?1==count(@" + not + "#", end + 9);
+            ill("$[?1==count(@" + not + "==1)]", end + 9);
+            // What begins an R can stand behind a THING alone, even if the R never ends.
+            for (String begun : new String[] {"=", "!", "=1]", "!]", "<", ">"}) {
+                ill("$[?@" + not + begun, 3);
+            }
+        }
     }
 
     private static void wrongBeforeThePathEnds() {
