@@ -621,20 +621,17 @@ public final class TreePaths {
         int readFrom(String text) {
             cursor.restart(text);
             try {
-                compiled = readWhole();
+                // Only a path in a condition may begin with @.
+                if (cursor.look() != '$') {
+                    cursor.refuse(cursor.at);
+                }
+                Path whole = readPath(0);
+                cursor.expectEnd();
+                compiled = whole;
             } catch (IllegalArgumentException e) {
                 return cursor.illPlace;
             }
             return NONE;
-        }
-
-        private Path readWhole() {
-            if (cursor.look() != '$') {
-                cursor.refuse(cursor.at);
-            }
-            Path whole = readPath(0);
-            cursor.expectEnd();
-            return whole;
         }
 
         private Path readPath(int depth) {
@@ -819,7 +816,9 @@ public final class TreePaths {
                 case 'c':
                     return readCount(depth);
                 default:
-                    return readWritten();
+                    Thing written = new Thing(Thing.WRITTEN);
+                    cursor.readPlain(written.value, '\'', '\'');
+                    return written;
             }
         }
 
@@ -851,12 +850,6 @@ public final class TreePaths {
             count.path = readPath(depth + 1);
             cursor.expect(')');
             return count;
-        }
-
-        private Thing readWritten() {
-            Thing written = new Thing(Thing.WRITTEN);
-            cursor.readPlain(written.value, '\'', '\'');
-            return written;
         }
     }
 
